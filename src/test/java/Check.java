@@ -2,7 +2,6 @@ import java.nio.charset.StandardCharsets;
 
 /** What all tests here use: feeding of texts, and counting of answers that are not as due. */
 final class Check {
-    static final String SMALL = "glass days 5 places 2 colours 2 reach 0";
     private static int wrong = 0;
 
     private Check() {
@@ -72,13 +71,6 @@ final class Check {
 
     static String person(String name, String kind, String habit, String order, String rest) {
         return "person " + name + " " + kind + " buys " + habit + " likes " + order + " " + rest;
-    }
-
-    static int fault(String text) {
-        BrushGlass x = new BrushGlass();
-        feed(x, text);
-        x.glass(text.length());
-        return x.fault();
     }
 
     static void end() {
