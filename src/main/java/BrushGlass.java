@@ -61,7 +61,6 @@ public final class BrushGlass {
     private final Painting painting = new Painting();
     private final Drift drifting = new Drift();
     private boolean written = false;
-    private boolean explained = false;
     private int trouble = NO_TROUBLE;
 
     public BrushGlass() {
@@ -342,17 +341,24 @@ public final class BrushGlass {
     }
 
     public int explains() {
-        trouble = hasGlass() ? findExplanations(today()) : NO_SUCH;
-        return trouble == NO_TROUBLE ? explanations.count : NONE;
+        if (!hasGlass()) {
+            return refuse(NO_SUCH);
+        }
+        if (firstWrongSeeing(today()) < 0) {
+            return refuse(NOT_SO);
+        }
+        explanations.search(glass, ways);
+        return answer(explanations.count);
     }
 
     public int explain(int i, int what) {
         if (!hasGlass() || what < 0 || what > 2) {
             return refuse(NO_SUCH);
         }
-        if (findExplanations(today()) != NO_TROUBLE) {
+        if (firstWrongSeeing(today()) < 0) {
             return refuse(NOT_SO);
         }
+        explanations.search(glass, ways);
         if (i < 0 || i >= explanations.count) {
             return refuse(NO_SUCH);
         }
@@ -670,7 +676,7 @@ public final class BrushGlass {
 
     private void changed() {
         written = false;
-        explained = false;
+        explanations.searched = false;
     }
 
     private Diary today() {
@@ -707,18 +713,6 @@ public final class BrushGlass {
     private boolean holds(Diary evenings, int saying) {
         int spot = evenings.spotOf(glass.saidDay[saying], glass.sayer[saying]);
         return spot == glass.saidPlace[saying];
-    }
-
-    /** Looks for what explains all, once until something changes: the number of the refusal. */
-    private int findExplanations(Diary evenings) {
-        if (firstWrongSeeing(evenings) < 0) {
-            return NOT_SO;
-        }
-        if (!explained) {
-            explanations.search(glass, ways);
-            explained = true;
-        }
-        return NO_TROUBLE;
     }
 
     /** A person as the text tells him. */
@@ -1670,13 +1664,18 @@ public final class BrushGlass {
         private final Course course;
         private final int[] found = new int[MOST];
         int count = 0;
+        boolean searched = false;
 
         Explanations(Course to) {
             course = to;
         }
 
-        /** For a glass of which some seeing is wrong. */
+        /** For a glass of which some seeing is wrong; searches once until something changes. */
         void search(Glass glass, Ways ways) {
+            if (searched) {
+                return;
+            }
+            searched = true;
             count = 0;
             course.begin(glass, ways);
             int last = glass.lastSeenDay();
