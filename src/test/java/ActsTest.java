@@ -42,6 +42,7 @@ public final class ActsTest {
     private static void shakes() {
         BrushGlass x = Check.of("glass days 5 places 3 colours 1 reach 0"
             + ";person p sure buys first likes a keeps 30 wears 1 takes no;stay p 0 to 4");
+        Check.due("ahead of it", x.at(4, 1), -2);
         Check.fine("74 mod 5, 5624 mod 2", x, x.shake(), 400);
         Check.due("seed", x.size(8), 5624);
         Check.due("moved", x.at(4, 1), 0);
@@ -58,6 +59,10 @@ public final class ActsTest {
         x.seed(1);
         // 149, then 11249
         Check.fine("149 mod 5, 11249 mod 2", x, x.shake(), 401);
+        BrushGlass narrow = Check.of("glass days 2 places 2 colours 1 reach 0"
+            + ";person p sure buys first likes a keeps 30 wears 1 takes no;stay p 0 to 1");
+        Check.fine("74 mod 2, and one pair of places alone", narrow, narrow.shake(), 0);
+        Check.due("moved", narrow.at(0, 1), 0);
     }
 
     private static void changes() {
@@ -97,6 +102,8 @@ public final class ActsTest {
         Check.refused("seed 65537", x, x.seed(65537), 2);
         Check.refused("seed -1", x, x.seed(-1), 2);
         Check.due("seed stays", x.size(8), 65536);
+        Check.fine("seed 0", x, x.seed(0));
+        Check.due("seed 0", x.size(8), 0);
         Check.fine("seed 7", x, x.seed(7));
         Check.due("no act", x.size(9), 0);
         x.move(0, 0, 1);

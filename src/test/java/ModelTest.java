@@ -8,19 +8,29 @@ public final class ModelTest {
     private static final Random chance = new Random(1);
 
     public static void main(String[] args) {
-        int made = 0;
-        for (int round = 0; made < GLASSES; round++) {
+        BrushGlass x = new BrushGlass();
+        for (int made = 0; made < GLASSES; ) {
             PlainModel model = someGlass();
-            if (model.text().length() > 1000) {
+            String text = model.text();
+            if (text.length() > 1000) {
                 continue;
             }
             made++;
-            BrushGlass x = Check.of(model.text());
-            compare("round " + round, x, model);
-            for (int act = 0; act < 4; act++) {
-                someAct("round " + round + " act " + act, x, model);
+            String told = "glass " + made;
+            // what an object was used for leaves nothing behind, nor does a text with a fault at its end
+            if (chance.nextInt(3) == 0) {
+                x = new BrushGlass();
+            } else if (text.length() < 999) {
+                Check.feed(x, text + " ;");
+                Check.due(told + " spoiled", x.glass(text.length() + 2), -1);
             }
-            compare("round " + round + " with acts", x, model);
+            Check.feed(x, text);
+            Check.due(told, x.glass(text.length()), model.people.size());
+            compare(told, x, model);
+            for (int act = 0; act < 4; act++) {
+                someAct(told + " act " + act, x, model);
+            }
+            compare(told + " with acts", x, model);
         }
         Check.end();
     }
@@ -155,6 +165,14 @@ public final class ModelTest {
     }
 
     private static void comparePeople(String told, BrushGlass x, PlainModel model) {
+        int[] sizes = {model.days, model.places, model.colours, model.reach, model.people.size(),
+            model.told.size() + model.acted.size(), model.seeings.size(), model.sayings.size()};
+        for (int what = 0; what < sizes.length; what++) {
+            Check.due(told + " size " + what, x.size(what), sizes[what]);
+        }
+        for (int p = 0; p < model.people.size(); p++) {
+            comparePerson(told + " person " + p, x, p, model.people.get(p));
+        }
         int most = 0;
         for (int day = 0; day < model.days; day++) {
             Check.due(told + " here " + day, x.here(day), model.here(day));
@@ -168,6 +186,20 @@ public final class ModelTest {
             colours = Math.max(colours, colouring[p] + 1);
         }
         Check.due(told + " colours", x.colours(), colours);
+    }
+
+    private static void comparePerson(String told, BrushGlass x, int p, PlainModel.Human human) {
+        int[] due = {human.kind, human.habit, human.keep, human.wears, human.takes ? 1 : 0, human.stays.size()};
+        for (int what = 0; what < due.length; what++) {
+            Check.due(told + " " + what, x.person(p, what), due[what]);
+        }
+        for (int i = 0; i <= human.order.length(); i++) {
+            Check.due(told + " likes " + i, x.likes(p, i), i < human.order.length() ? human.order.charAt(i) - 'a' : -1);
+        }
+        for (int i = 0; i < human.stays.size(); i++) {
+            Check.due(told + " stay from " + i, x.stay(p, i, 0), human.stays.get(i)[0]);
+            Check.due(told + " stay to " + i, x.stay(p, i, 1), human.stays.get(i)[1]);
+        }
     }
 
     private static void compareEvenings(String told, BrushGlass x, PlainModel model) {
