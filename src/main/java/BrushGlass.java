@@ -878,8 +878,8 @@ public final class BrushGlass {
             return fail(FORM);
         }
 
-        private boolean fail(int number) {
-            fault = number;
+        private boolean fail(int which) {
+            fault = which;
             faultPlace = start;
             return false;
         }

@@ -26,6 +26,8 @@ public final class PairingsTest {
             }
         }
         Check.due("u's is in the cupboard", x.place(2, 4), 8);
+        Check.due("surely as the first call", Check.of(FOUR).surely(1, 2), 2);
+        Check.due("ask as the first call", Check.of(FOUR).ask(1), 3);
         refusals(x);
         crowd();
         Check.end();
