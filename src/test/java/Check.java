@@ -3,14 +3,27 @@ import java.nio.charset.StandardCharsets;
 /** What all tests here use: feeding of texts, and counting of answers that are not as due. */
 final class Check {
     private static int wrong = 0;
+    private static String sentence = "";
 
     private Check() {
+    }
+
+    /** The sentence of the document that is tested from here on; it is told with what goes wrong. */
+    static void on(String words) {
+        sentence = "[" + words + "] ";
     }
 
     static void due(String call, long got, long want) {
         if (got != want) {
             wrong++;
-            System.out.println(call + " answered " + got + ", due is " + want);
+            System.out.println(sentence + call + " answered " + got + ", due is " + want);
+        }
+    }
+
+    static void due(String call, String got, String want) {
+        if (!got.equals(want)) {
+            wrong++;
+            System.out.println(sentence + call + " answered " + got + ", due is " + want);
         }
     }
 

@@ -53,7 +53,21 @@ public final class FaceTest {
             }
         }
         Check.due("NONE", BrushGlass.NONE, -1);
+        for (Class<?> inside : BrushGlass.class.getDeclaredClasses()) {
+            inside(inside, publicNames);
+        }
         Check.end();
+    }
+
+    /** Classes inside are private and static, and none of their private methods bears a public one's name. */
+    private static void inside(Class<?> inside, TreeSet<String> publicNames) {
+        int due = Modifier.PRIVATE | Modifier.STATIC;
+        Check.due(inside.getName() + " is private and static", inside.getModifiers() & due, due);
+        for (Method method : inside.getDeclaredMethods()) {
+            boolean isPrivate = Modifier.isPrivate(method.getModifiers());
+            Check.due(inside.getName() + "." + method.getName() + " has a public name",
+                isPrivate && publicNames.contains(method.getName()), false);
+        }
     }
 
     private static String told(Method method) {
