@@ -1,20 +1,9 @@
 import java.util.function.IntPredicate;
 import java.util.function.IntToLongFunction;
 
-/** What the tests of edges share: bounds of one number, and all that an object answers. */
+/** What the tests of edges share: numbers outside of bounds, rows of evenings, and all that an object answers. */
 final class Edges {
     private Edges() {
-    }
-
-    /** Refused by this number outside of the bounds, to the ends of all numbers, and not refused at either bound. */
-    static void bounds(String call, BrushGlass x, int least, int most, int number, IntToLongFunction answer) {
-        for (int value : new int[] {Integer.MIN_VALUE, least - 1, most + 1, Integer.MAX_VALUE}) {
-            Check.refused(call + " " + value, x, answer.applyAsLong(value), number);
-        }
-        for (int value : new int[] {least, most}) {
-            long got = answer.applyAsLong(value);
-            Check.due(call + " " + value + " is refused", got == -1 || x.trouble() != 0, false);
-        }
     }
 
     /** Refused by 1 from a count on, and below 0. */
@@ -43,7 +32,7 @@ final class Edges {
         StringBuilder row = new StringBuilder();
         for (int place = 0; place < x.size(1); place++) {
             int brush = x.at(day, place);
-            row.append(brush < 0 ? "-" : String.valueOf(brush));
+            row.append(brush == -2 ? "-" : String.valueOf(brush));
         }
         return row.toString();
     }

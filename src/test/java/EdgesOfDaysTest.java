@@ -1,3 +1,5 @@
+import java.util.NoSuchElementException;
+
 /** Terms II, a sentence at a time: who comes, buys, throws away, moves, uses, goes; the glass that is full. */
 public final class EdgesOfDaysTest {
     public static void main(String[] args) {
@@ -465,5 +467,19 @@ public final class EdgesOfDaysTest {
         Check.due("the last place is free", x.at(29, 7), -2);
         Check.due("here", x.here(29), 127);
         Check.due("most", x.most(), 7);
+        boolean thrown = false;
+        try {
+            x.led(0);
+        } catch (NoSuchElementException e) {
+            thrown = true;
+        }
+        Check.due("led(0) of seven who all use their own throws", thrown, true);
+        for (int p = 0; p < 7; p++) {
+            x.kind(p, 1);
+        }
+        x.habit(6, 0);
+        Check.due("many as the first call behind an act", x.many(0), 7);
+        Check.due("led(0), the last of seven", x.led(0), 6);
+        Check.due("sins", Edges.each(7, x::sins), "0 0 0 0 0 0 30");
     }
 }
