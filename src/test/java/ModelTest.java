@@ -6,11 +6,12 @@ import java.util.Random;
 public final class ModelTest {
     private static final int GLASSES = 400;
     private static final Random chance = new Random(1);
+    private static final SomeGlass some = new SomeGlass(chance);
 
     public static void main(String[] args) {
         BrushGlass x = new BrushGlass();
         for (int made = 0; made < GLASSES; ) {
-            PlainModel model = someGlass();
+            PlainModel model = some.make(7, 8, chance.nextInt(5) == 0 ? 30 : 12);
             String text = model.text();
             if (text.length() > 1000) {
                 continue;
@@ -39,71 +40,6 @@ public final class ModelTest {
         return chance.nextInt(most + 1);
     }
 
-    private static PlainModel someGlass() {
-        PlainModel model = new PlainModel();
-        model.days = 2 + upTo(chance.nextInt(5) == 0 ? 28 : 10);
-        model.places = 2 + upTo(6);
-        model.colours = 1 + upTo(5);
-        model.reach = chance.nextInt(4) == 0 ? 100 * upTo(1) : upTo(100);
-        int people = 1 + upTo(6);
-        for (int p = 0; p < people; p++) {
-            model.people.add(someone(model));
-        }
-        for (int i = upTo(4); i > 0; i--) {
-            model.told.add(someMove(model));
-        }
-        for (int i = upTo(5); i > 0; i--) {
-            model.sayings.add(new int[] {upTo(people - 1), upTo(model.days - 1), upTo(model.places - 1)});
-        }
-        addSeeings(model);
-        return model;
-    }
-
-    private static PlainModel.Human someone(PlainModel model) {
-        PlainModel.Human human = new PlainModel.Human();
-        human.kind = upTo(3);
-        human.habit = upTo(2);
-        human.keep = chance.nextBoolean() ? 3 + upTo(3) : 3 + upTo(27);
-        human.wears = 1 + upTo(8);
-        human.takes = chance.nextBoolean();
-        StringBuilder order = new StringBuilder();
-        for (int i = upTo(model.colours - 1); i >= 0; i--) {
-            char colour = (char) ('a' + upTo(model.colours - 1));
-            if (order.indexOf(String.valueOf(colour)) < 0) {
-                order.append(colour);
-            }
-        }
-        human.order = order.toString();
-        int from = 0;
-        for (int i = upTo(3); i > 0 && from < model.days; i--) {
-            int first = Math.min(model.days - 1, from + (chance.nextBoolean() ? 0 : upTo(3)));
-            int last = Math.min(model.days - 1, first + upTo(chance.nextBoolean() ? 2 : 12));
-            human.stays.add(new int[] {first, last});
-            from = last + 1;
-        }
-        return human;
-    }
-
-    private static int[] someMove(PlainModel model) {
-        int place = upTo(model.places - 1);
-        int other = (place + 1 + upTo(model.places - 2)) % model.places;
-        return new int[] {upTo(model.days - 1), place, other};
-    }
-
-    /** Mostly what stands there with one more move, so that something explains it. */
-    private static void addSeeings(PlainModel model) {
-        model.go(-1, -1, chance.nextInt(3) == 0 ? null : someMove(model));
-        for (int i = upTo(4); i > 0; i--) {
-            int day = upTo(model.days - 1);
-            StringBuilder row = new StringBuilder(model.evenings.get(day).row());
-            if (chance.nextInt(12) == 0) {
-                char letter = chance.nextBoolean() ? 'z' : (char) ('a' + upTo(model.colours - 1));
-                row.setCharAt(upTo(model.places - 1), letter);
-            }
-            model.seeings.add(new Object[] {day, row.toString()});
-        }
-    }
-
     private static void someAct(String told, BrushGlass x, PlainModel model) {
         int p = upTo(model.people.size() - 1);
         PlainModel.Human human = model.people.get(p);
@@ -124,7 +60,7 @@ public final class ModelTest {
                 human.keep = 3 + value;
                 break;
             default:
-                int[] move = someMove(model);
+                int[] move = some.move(model);
                 Check.due(told + " move", x.move(move[0], move[1], move[2]), true);
                 model.acted.add(move);
                 break;

@@ -119,6 +119,56 @@ final class PlainModel {
         return text.toString();
     }
 
+    /** The glass of a text that has no fault. */
+    static PlainModel of(String text) {
+        PlainModel model = new PlainModel();
+        List<String> names = new ArrayList<>();
+        for (String line : text.split(";")) {
+            String parted = line.replaceAll("(?<=[a-z])(?=[0-9])|(?<=[0-9])(?=[a-z])|,", " ");
+            model.add(parted.trim().split(" +"), names);
+        }
+        return model;
+    }
+
+    private void add(String[] words, List<String> names) {
+        switch (words[0]) {
+            case "glass":
+                days = Integer.parseInt(words[2]);
+                places = Integer.parseInt(words[4]);
+                colours = Integer.parseInt(words[6]);
+                reach = Integer.parseInt(words[8]);
+                break;
+            case "person":
+                names.add(words[1]);
+                people.add(human(words));
+                break;
+            case "stay":
+                int[] stay = {Integer.parseInt(words[2]), Integer.parseInt(words[4])};
+                people.get(names.indexOf(words[1])).stays.add(stay);
+                break;
+            case "moves":
+                told.add(new int[] {Integer.parseInt(words[1]), Integer.parseInt(words[2]), Integer.parseInt(words[3])});
+                break;
+            case "seen":
+                seeings.add(new Object[] {Integer.parseInt(words[1]), words[2]});
+                break;
+            default:
+                sayings.add(new int[] {names.indexOf(words[1]), Integer.parseInt(words[2]), Integer.parseInt(words[3])});
+                break;
+        }
+    }
+
+    private static Human human(String[] words) {
+        Human human = new Human();
+        human.kind = Arrays.asList(KINDS).indexOf(words[2]);
+        human.habit = Arrays.asList(HABITS).indexOf(words[4]);
+        human.order = words[6];
+        human.keep = Integer.parseInt(words[8]);
+        human.wears = Integer.parseInt(words[10]);
+        human.takes = words[12].equals("yes");
+        return human;
+    }
+
     static String name(int p) {
         return String.valueOf((char) ('p' + p));
     }
